@@ -276,7 +276,7 @@ public final class PromisesTest {
                 set(1, 99) -> 40; clay(99) -> 99; cast(0, 3, 50) -> 3; glaze(0, 3, 1) -> 1236; glaze(1, 0, 9) -> 1144
                 wouldBe(0, 1235) -> 1; wouldBe(0, 1275) -> 1; wouldBe(0, 1276) -> 2; wouldBe(0, 1305) -> 2
                 wouldBe(0, 1306) -> 3; wouldBe(2, 1306) -> 2; wouldBe(2, 1433) -> 2; wouldBe(2, 1434) -> 3
-                set(0, 0) -> 3; wouldBe(0, 1245) -> 1; wouldBe(0, 1246) -> 3; wouldBe(0, 1236) -> 1
+                set(0, 0) -> 3; wouldBe(2, 1245) -> 2; wouldBe(0, 1245) -> 1; wouldBe(0, 1246) -> 3; wouldBe(0, 1236) -> 1
                 set(0, 9) -> 0; wouldBe(0, 1335) -> 2; wouldBe(0, 1334) -> 1; wouldBe(1, 1235) -> 1
                 wouldBe(1, 1243) -> 1; wouldBe(1, 1244) -> 2; wouldBe(1, 1333) -> 2; wouldBe(1, 1334) -> 3
                 """);
@@ -312,7 +312,7 @@ public final class PromisesTest {
     private static void orders() {
         run("promise 12: at most 6 orders", """
                 order(1, 2, 3, 4, 2, true) -> 0; order(6, 6, 6, 6, 0, false) -> 1; order(0, 0, 0, 1, 3, false) -> 2
-                order(0, 0, 1, 0, 3, false) -> 3; order(0, 1, 0, 0, 3, false) -> 4; order(1, 0, 0, 0, 3, false) -> 5
+                order(0, 0, 1, 0, 3, false) -> 3; order(2, 0, 0, 2, 3, false) -> 4; order(1, 0, 0, 0, 3, false) -> 5
                 order(1, 0, 0, 0, 3, false) -> throws UnsupportedOperationException; refusal(0, false) -> 1
                 refusal(0, true) -> 6; order(0, 0, 0, 0, 3, false) -> throws IllegalArgumentException; account(9) -> 6
                 """);
@@ -505,6 +505,10 @@ public final class PromisesTest {
                 clay(9) -> 9; "t0*1;t0*1;" -> 10; read() -> throws IllegalArgumentException; faultPosition() -> 10
                 account(0) -> 0; account(17) -> 0; account(18) -> 1; refusal(0, false) -> throws NoSuchElementException
                 """);
+        run("promise 27: steps that answer 0 are done, too", """
+                clay(9) -> 9; saggar() -> 0; "t0*3;p0@0;p1@0;p2@0" -> 19; read() -> 4; "e0" -> 2; read() -> 1
+                ware(2, 2) -> 0; "p0@0;e0;p1@0" -> 12; read() -> 3; ware(1, 2) -> 1; ware(0, 2) -> 0
+                """);
         run("promise 27: twenty steps fill the buffer", """
                 "e0;e0;e0;e0;e0;e0;e0;e0;e0;e0;e0;e0;e0;e0;e0;e0;e0;e0;e0;e0" -> 59
                 read() -> throws UnsupportedOperationException; refusal(0, true) -> 0; refusal(1, false) -> 13
@@ -543,6 +547,7 @@ public final class PromisesTest {
         fault("p@", 1);
         fault("p1=", 2);
         fault("p12@", 4);
+        fault("p123", 3);
         fault("p12@12", 5);
         fault("f", 1);
         fault("f125", 4);
@@ -558,6 +563,14 @@ public final class PromisesTest {
         fault("T1*1", 0);
         fault("t/*1", 1);
         fault("t:*1", 1);
+        run("promise 28: what an earlier text left behind does not count", """
+                "t0*1;e0" -> 7; read() -> throws UnsupportedOperationException; "t0" -> 2
+                read() -> throws IllegalArgumentException; faultPosition() -> 2; "t0*" -> 3
+                read() -> throws IllegalArgumentException; faultPosition() -> 3; "t0*1;" -> 5
+                read() -> throws IllegalArgumentException; faultPosition() -> 5; "t" -> 1
+                read() -> throws IllegalArgumentException; faultPosition() -> 1; read() -> throws IllegalArgumentException
+                faultPosition() -> 0
+                """);
         run("promise 28: -1 without a fault, also if the text is refused", """
                 faultPosition() -> -1; "x" -> 1; faultPosition() -> -1; read() -> throws IllegalArgumentException
                 faultPosition() -> 0; "e0" -> 2; faultPosition() -> 0; read() -> throws UnsupportedOperationException
@@ -665,6 +678,8 @@ public final class PromisesTest {
         run("promise 34: undone once, then changed anew", """
                 clay(1) -> 1; clay(2) -> 3; undo() -> 1; clay(5) -> 6; account(18) -> 2; undo() -> 1; account(13) -> 1
                 undo() -> 0; account(13) -> 0; account(12) -> 0; undo() -> throws IllegalStateException
+                clay(1) -> 1; clay(1) -> 2; undo() -> 1; clay(3) -> 4; clay(3) -> 7; clay(3) -> 10; undo() -> 3
+                account(13) -> 7; undo() -> 2; account(13) -> 4; undo() -> 1; account(13) -> 1; undo() -> 0
                 10 x clay(1) -> 10; undo() -> 7; 3 x clay(1) -> 12; undo() -> 7; 7 x undo() -> 0; account(13) -> 4
                 """);
         run("promise 34: refused calls, asking, appending and saving are no changes", """
