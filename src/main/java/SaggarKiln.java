@@ -1265,23 +1265,22 @@ public final class SaggarKiln {
                 return false;
             }
             char verb = signs[at];
-            if ("tgpfes".indexOf(verb) < 0) {
-                return false;
-            }
             verbs[step] = verb;
-            at++;
             switch (verb) {
                 case 't':
-                    return passNumber(step, 0, 1, 1) && passSign('*') && passNumber(step, 1, 1, 2);
+                    return passSign(verb) && passNumber(step, 0, 1, 1) && passSign('*') && passNumber(step, 1, 1, 2);
                 case 'g':
-                    return passNumber(step, 0, 1, 2) && passSign('=')
+                    return passSign(verb) && passNumber(step, 0, 1, 2) && passSign('=')
                             && passNumber(step, 1, 1, 1) && passNumber(step, 2, 1, 1);
                 case 'p':
-                    return passNumber(step, 0, 1, 2) && passSign('@') && passNumber(step, 1, 1, 1);
+                    return passSign(verb) && passNumber(step, 0, 1, 2) && passSign('@') && passNumber(step, 1, 1, 1);
                 case 'f':
-                    return passNumber(step, 0, 4, 4);
+                    return passSign(verb) && passNumber(step, 0, 4, 4);
+                case 'e':
+                case 's':
+                    return passSign(verb) && passNumber(step, 0, 1, 1);
                 default:
-                    return passNumber(step, 0, 1, 1);
+                    return false;
             }
         }
 

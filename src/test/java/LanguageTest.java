@@ -43,7 +43,7 @@ public final class LanguageTest {
     private static final int MOST_FIELDS = 20;
     private static final int MOST_CALLS_DEEP = 8;
     private static final Set<String> LIBRARY = Set.of("java.lang.System.arraycopy", "java.lang.Math.min",
-            "java.lang.Math.max", "java.lang.String.indexOf", "java.lang.Object.<init>");
+            "java.lang.Math.max", "java.lang.Object.<init>");
     private static final Set<String> EXCEPTIONS = Set.of("IllegalStateException", "IllegalArgumentException",
             "IndexOutOfBoundsException", "ArithmeticException", "UnsupportedOperationException",
             "NoSuchElementException", "RuntimeException");
