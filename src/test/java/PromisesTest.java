@@ -47,6 +47,7 @@ public final class PromisesTest {
         shares();
         undoing();
         snapshots();
+        fullKiln();
         SCRIPT.end("promises");
     }
 
@@ -716,6 +717,46 @@ public final class PromisesTest {
                 read() -> throws UnsupportedOperationException; restore() -> 0; refusal(1, false) -> 2; account(17) -> 0
                 append(120) -> 1; read() -> throws IllegalArgumentException; restore() -> 0; faultPosition() -> 0
                 refusal(0, false) -> 11
+                """);
+    }
+
+    /** Every call with as many wares, saggars, orders and characters as there can be: nothing ends beyond a row. */
+    private static void fullKiln() {
+        String nines = "f1250;".repeat(9);
+        run("promises 27 and 28: full buffers that end in several ways", """
+                "NINESf1250;" -> 60; read() -> throws IllegalArgumentException; faultPosition() -> 60
+                "NINESt1*12t" -> 60; read() -> throws IllegalArgumentException; faultPosition() -> 59
+                "NINESe0;e0t" -> 60; read() -> throws IllegalArgumentException; faultPosition() -> 59
+                "NINESe0;f12" -> 60; read() -> throws IllegalArgumentException; faultPosition() -> 60
+                "NINESs0;p1@" -> 60; read() -> throws IllegalArgumentException; faultPosition() -> 60
+                "NINESs0;t1*" -> 60; read() -> throws IllegalArgumentException; faultPosition() -> 60
+                "NINESs0;g1=" -> 60; read() -> throws IllegalArgumentException; faultPosition() -> 60
+                "NINESs0;s0;" -> 60; read() -> throws IllegalArgumentException; faultPosition() -> 60
+                "NINESg10=31" -> 60; read() -> throws UnsupportedOperationException; faultPosition() -> -1
+                refusal(0, true) -> 0; refusal(1, false) -> 9
+                """.replace("NINES", nines));
+        run("a full kiln", """
+                set(2, 40) -> 16; clay(99) -> 99; cast(1, 20, 50) -> 20; cast(1, 20, 50) -> 40; cast(1, 20, 50) -> 60
+                8 x saggar() -> 7; 5 x order(0, 1, 0, 0, 3, true) -> 4; order(0, 2, 0, 0, 3, true) -> 5
+                stack(0, -1, 0) -> 0; stack(1, 0, 0) -> 1; stack(2, 1, 0) -> 2; stack(3, 2, 0) -> 3; stack(4, 3, 0) -> 4
+                stack(5, 4, 0) -> 5; stack(6, 5, 0) -> 6; stack(7, 6, 0) -> 7; load(0) -> 21; loadAgain(0) -> 21
+                loadAgain(7) -> 0; saggarOf(7, 3) -> -1; saggarOf(7, 4) -> 6; saggarOf(0, 4) -> -1; meanLoad() -> 10.5
+                glaze(59, 3, 1) -> 1236; put(59, 7) -> 5; put(58, 7) -> 4; glaze(57, 3, 1) -> 1236; put(57, 0) -> 5
+                bestHeat(false) -> 1240; bestHeat(true) -> 1; fire(1310) -> 1; firstShare() -> 0.3333333333333333
+                empty(7) -> 2; empty(0) -> 0; store(1, 3, false) -> 1; store(1, -1, true) -> 1; store(1, 3, true) -> 0
+                sets(5) -> 0; setsAgain(5) -> 0; sell(5) -> throws UnsupportedOperationException; refusal(1, true) -> 1
+                sets(4) -> 1; setsAgain(4) -> 1; sell(4) -> 1; ware(59, 2) -> 4; ware(58, 2) -> 3; ware(57, 2) -> 5
+                account(10) -> 1; orderOf(5, 6) -> 0; isBalanced() -> true; sign(59) -> o; save() -> 60; undo() -> 7
+                ware(59, 2) -> 3; restore() -> 60; ware(59, 2) -> 4; unstack(7) -> 7; isBalanced() -> true
+                "t1*1" -> 4; read() -> throws UnsupportedOperationException; refusal(1, false) -> 1; refusal(1, true) -> 60
+                """);
+        run("a full store, of which the last order takes sets", """
+                set(2, 40) -> 16; clay(99) -> 99; 3 x cast(1, 20, 50) -> 60; saggar() -> 0; stack(0, -1, 0) -> 0
+                5 x order(0, 3, 0, 0, 3, false) -> 4; order(0, 2, 0, 0, 3, false) -> 5
+                "g59=31;g58=31;g57=31;g56=31;g55=31" -> 34; read() -> 5; put(59, 0) -> 5; put(58, 0) -> 4; put(57, 0) -> 3
+                put(56, 0) -> 2; put(55, 0) -> 1; fire(1250) -> 5; empty(0) -> 5; sets(5) -> 2; setsAgain(5) -> 2
+                sell(5) -> 1; ware(55, 2) -> 4; ware(56, 2) -> 4; ware(57, 2) -> 3; sell(0) -> 1; ware(59, 2) -> 4
+                account(10) -> 2; isBalanced() -> true
                 """);
     }
 }
