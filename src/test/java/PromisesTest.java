@@ -743,6 +743,7 @@ public final class PromisesTest {
                 loadAgain(7) -> 0; saggarOf(7, 3) -> -1; saggarOf(7, 4) -> 6; saggarOf(0, 4) -> -1; meanLoad() -> 10.5
                 glaze(59, 3, 1) -> 1236; put(59, 7) -> 5; put(58, 7) -> 4; glaze(57, 3, 1) -> 1236; put(57, 0) -> 5
                 bestHeat(false) -> 1240; bestHeat(true) -> 1; fire(1310) -> 1; firstShare() -> 0.3333333333333333
+                fire(1310) -> throws UnsupportedOperationException; bestHeat(true) -> throws NoSuchElementException
                 empty(7) -> 2; empty(0) -> 0; store(1, 3, false) -> 1; store(1, -1, true) -> 1; store(1, 3, true) -> 0
                 sets(5) -> 0; setsAgain(5) -> 0; sell(5) -> throws UnsupportedOperationException; refusal(1, true) -> 1
                 sets(4) -> 1; setsAgain(4) -> 1; sell(4) -> 1; ware(59, 2) -> 4; ware(58, 2) -> 3; ware(57, 2) -> 5
