@@ -98,7 +98,7 @@ final class Sentences {
 
     /** Prints what there is to say, and ends the program with 1 if something was wrong. */
     void end(String what) {
-        System.out.println(what + ": " + tests + " tests of sentences, " + wrong + " wrong quotes");
+        System.out.println(what + ": " + tests + " tests of sentences, " + wrong + " quotes or sentences amiss");
         if (wrong != 0) {
             System.exit(1);
         }
