@@ -47,6 +47,7 @@ public final class UnchangedTest {
         check("clay(9)", arithmetic, "firstShare()", "meanLoad()");
         check("clay(9)", state, "restore()");
         check("", state, "undo()", "restore()");
+        check("clay(9)" + "; append(102)".repeat(60), state, "append(48)");
         check(CLAY, refused, "clay(2)", "clay(99)");
         check(FULL, refused, "cast(1, 1, 50)", "saggar()", "order(1, 1, 1, 1, 0, true)", "stack(2, 1, 0)", "put(2, 1)", "sell(0)");
         checkText(BUSY, refused, "t1*1;g6=31;p6@3;p7@3;e3;f1240;e0;e2", "s0;s0", "s1", "t1*9;t1*9;t1*20", "e3;p6@3;p0@3", "e9", "f1399;f1399");
